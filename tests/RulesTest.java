@@ -92,7 +92,7 @@ public final class RulesTest {
             check(!line.contains("->") && !line.contains("::"), "2: line " + (i + 1));
             check(!line.startsWith("import ") || line.equals("import java.util.Arrays;")
                 || line.equals("import java.util.NoSuchElementException;"), "4: " + line);
-            if (line.endsWith("{") && (line.matches("    [a-z].*\\(.*") || line.matches("        [a-z].*\\) (throws .*)?\\{"))) {
+            if (line.endsWith("{") && (line.matches("    [a-z].*\\(.*") || line.matches("        [a-zA-Z].*\\) (throws .*)?\\{"))) {
                 start = i;
             }
             if (line.equals("    }") || line.equals("        }")) {

@@ -39,11 +39,14 @@ public final class FrameHeirs {
 
     private final int[] tape = new int[TAPE_BYTES];
     private int taped = 0;
-    private final Reader reader = new Reader();
     private Script spareScript = new Script();
+    private final Reader reader = new Reader(tape, spareScript);
     private World now = new World(new Script());
-    private World before = null;
-    private World trial = null;
+    /** The world as it was ahead of the call that goes on. */
+    private World before = new World(now.script);
+    /** A copy in which things are tried out. */
+    private final World trial = new World(now.script);
+    /** A ring: what can be undone ends ahead of pastNext. */
     private final World[] past = new World[MOST_PAST];
     private int pastNext = 0;
     private int pastKept = 0;
@@ -68,7 +71,7 @@ public final class FrameHeirs {
             return -2;
         }
         taped = 0;
-        reader.begin(tape, n, spareScript);
+        reader.begin(n, spareScript);
         for (int i = 0; i < n && reader.hasMore(); i++) {
             if (!reader.readLine()) {
                 return NONE;
@@ -270,7 +273,7 @@ public final class FrameHeirs {
         if (!now.isSpace(space)) {
             return NONE;
         }
-        tryOut();
+        trial.copyFrom(now);
         for (int ticks = 0; ticks <= MOST_COOLING; ticks++) {
             if (trial.deeds.warmthOf(space) < 1f) {
                 return ticks;
@@ -306,28 +309,28 @@ public final class FrameHeirs {
     }
 
     public int steps(int space, int region) {
-        tryOut();
+        trial.copyFrom(now);
         return trial.startFlush(space, region, ALL_RIGHTS, false);
     }
 
     public int tried(int what) {
         switch (what) {
             case 0:
-                tryOut();
+                trial.copyFrom(now);
                 trial.settleAll();
                 return trial.deeds.pagesOfAll();
             case 1:
-                tryOut();
+                trial.copyFrom(now);
                 trial.settleAll();
                 return trial.refused - now.refused;
             case 2:
                 return now.deeds.allToDo();
             case 3:
-                tryOut();
+                trial.copyFrom(now);
                 trial.workOn(now.deeds.allToDo());
                 return trial.deeds.pagesOfAll();
             case 4:
-                tryOut();
+                trial.copyFrom(now);
                 for (int space = 0; space < trial.script.spaces; space++) {
                     trial.joinAll(space);
                 }
@@ -346,7 +349,7 @@ public final class FrameHeirs {
         if (spaces < 1 || size < 1) {
             return -2;
         }
-        tryOut();
+        trial.copyFrom(now);
         int last = seed < 0 ? now.script.seed : seed;
         int hits = 0;
         for (int i = 0; i < n; i++) {
@@ -420,9 +423,6 @@ public final class FrameHeirs {
     }
 
     private void remember() {
-        if (before == null) {
-            before = new World(now.script);
-        }
         before.copyFrom(now);
     }
 
@@ -431,18 +431,11 @@ public final class FrameHeirs {
         if (given != NONE) {
             World oldest = past[pastNext];
             past[pastNext] = before;
-            before = oldest;
+            before = oldest == null ? new World(now.script) : oldest;
             pastNext = (pastNext + 1) % MOST_PAST;
             pastKept = Math.min(pastKept + 1, MOST_PAST);
         }
         return given;
-    }
-
-    private void tryOut() {
-        if (trial == null) {
-            trial = new World(now.script);
-        }
-        trial.copyFrom(now);
     }
 
     private static int drawnAfter(int last) {
@@ -560,10 +553,11 @@ public final class FrameHeirs {
         private static final int[] SERVE_FORM = {ARG_SPACE};
 
         private static final int NUMBER_CAP = 1000000;
+        private static final int LETTERS = 6;
 
         int faultKind = 0;
         int faultPlace = NONE;
-        private int[] bytes = null;
+        private final int[] bytes;
         private int length = 0;
         private int position = 0;
         private int kind = END;
@@ -572,11 +566,15 @@ public final class FrameHeirs {
         /** The words of the language that may come once and came, as bits; of quotas those of the spaces. */
         private int toldWords = 0;
         private int toldQuotas = 0;
-        private Script into = null;
+        private Script into;
 
-        void begin(int[] tape, int n, Script script) {
+        Reader(int[] tape, Script script) {
             bytes = tape;
-            length = Math.min(n, tape.length);
+            into = script;
+        }
+
+        void begin(int n, Script script) {
+            length = Math.min(n, bytes.length);
             position = 0;
             into = script;
             into.clear();
@@ -785,42 +783,33 @@ public final class FrameHeirs {
         }
 
         private void take() {
-            while (isBlank(look())) {
+            while (position < length && isBlank(bytes[position])) {
                 position++;
             }
             start = position;
-            int sign = look();
-            if (sign < 0) {
+            if (position >= length) {
                 kind = END;
-            } else if (isLetter(sign)) {
+            } else if (isLetter(bytes[position])) {
                 takeWord();
-            } else if (isDigit(sign)) {
+            } else if (isDigit(bytes[position])) {
                 takeDigits();
             } else {
-                kind = sign == ';' ? SEMICOLON : WRONG;
+                kind = bytes[position] == ';' ? SEMICOLON : WRONG;
                 position++;
             }
-        }
-
-        /** The byte at the position; NONE behind the last one. */
-        private int look() {
-            if (bytes == null || position < 0 || position >= length || position >= bytes.length) {
-                return NONE;
-            }
-            return bytes[position];
         }
 
         private void takeWord() {
             int packed = 0;
             int letters = 0;
-            while (isLetter(look())) {
-                if (letters < 6) {
-                    packed |= look() - 'a' + 1 << 25 - 5 * letters;
+            while (position < length && isLetter(bytes[position])) {
+                if (letters < LETTERS) {
+                    packed |= bytes[position] - 'a' + 1 << 25 - 5 * letters;
                 }
                 letters++;
                 position++;
             }
-            kind = letters > 6 ? WRONG : NAME;
+            kind = letters > LETTERS ? WRONG : NAME;
             value = packed;
             for (int word = 0; word < WORDS.length && kind == NAME; word++) {
                 if (WORDS[word] == packed) {
@@ -830,10 +819,11 @@ public final class FrameHeirs {
             }
         }
 
+        /** A number beyond the cap stays at it: it is beyond all that a text may say. */
         private void takeDigits() {
             int number = 0;
-            while (isDigit(look())) {
-                number = Math.min(number * 10 + look() - '0', NUMBER_CAP);
+            while (position < length && isDigit(bytes[position])) {
+                number = Math.min(number * 10 + bytes[position] - '0', NUMBER_CAP);
                 position++;
             }
             kind = NUMBER;
@@ -1376,7 +1366,7 @@ public final class FrameHeirs {
                 return -2;
             }
             int frame = frameAt(deeds, slot, place);
-            for (int i = 0; i < k && slot >= 0; i++) {
+            for (int i = 0; i < k && i < SLOTS && slot >= 0; i++) {
                 slot = deeds.giver[slot];
             }
             if (slot < 0) {
@@ -1391,7 +1381,7 @@ public final class FrameHeirs {
                 return -2;
             }
             int child = deeds.first[slot];
-            for (int i = 0; i < k && child >= 0; i++) {
+            for (int i = 0; i < k && i < SLOTS && child >= 0; i++) {
                 child = deeds.next[child];
             }
             return child < 0 ? -2 : 32 * deeds.space[child] + deeds.place[child];
@@ -1789,7 +1779,7 @@ public final class FrameHeirs {
                     turns = deeds.queueBeneath(slot, itself, number, turns);
                 }
             }
-            if (turns == 0) {
+            if (turns == 0 || jobCount >= MOST_JOBS) {
                 deeds.endJob(number);
                 return 0;
             }
