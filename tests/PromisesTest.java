@@ -93,6 +93,8 @@ public final class PromisesTest {
         churns();
         undoes();
         counts();
+        fullSpaces();
+        longChain();
         wildCalls();
         System.out.println("PromisesTest: " + asked + " answers, " + wrong + " not as due");
         if (wrong != 0) {
@@ -186,6 +188,8 @@ public final class PromisesTest {
         fault("size 00032;", 0, NONE);
         fault("size 99999999999999999999;", 2, 5);
         fault("seed 4294967296;", 2, 5);
+        fault("seed 0;budget 0;decay 1;", 0, NONE);
+        fault("budget 9;seed 00;", 0, NONE);
         fault("seed 99999;seed 0;", 3, 11);
         fault("decay 9;decay 9;", 3, 8);
         fault("space a;serve a;size 8;", 1, 16);
@@ -1061,6 +1065,62 @@ public final class PromisesTest {
         for (int what = 4; what <= 12; what++) {
             due(40, "none since the text: " + what, x.count(what), 0);
         }
+    }
+
+    /** As many deeds as there are places, and joined again. */
+    private static void fullSpaces() {
+        FrameHeirs x = told("size 32;space r;space a;space b;space c;space d;space e;");
+        for (int space = 1; space < 6; space++) {
+            for (int place = 0; place < 32; place += 8) {
+                x.map(0, region(place, 3), space, place, 3);
+            }
+        }
+        for (int place = 0; place < 32; place++) {
+            due(8, "flush of page " + place, x.flush(0, region(place, 0), 4, false), 5);
+            due(9, "work", x.work(99), 5);
+        }
+        due(40, "deeds", x.count(2), 192);
+        due(40, "pages", x.count(3), 192);
+        due(40, "splits: 28 of each space", x.count(7), 168);
+        due(37, "tidied", x.tried(4), 24);
+        due(14, "givers first", x.tidy(5), 0);
+        for (int space = 0; space < 6; space++) {
+            due(14, "tidy", x.tidy(space), 28);
+        }
+        due(40, "deeds then", x.count(2), 24);
+        due(19, "heirs in their order", x.heir(0, 24, 4), 5 * 32 + 24);
+    }
+
+    /** One page handed on through all places of all spaces but the root's. */
+    private static void longChain() {
+        FrameHeirs x = told("size 32;space r;space a;space b;space c;space d;space e;");
+        int space = 0;
+        int place = 7;
+        for (int i = 0; i < 160; i++) {
+            int to = 1 + i % 5;
+            due(6, "on", x.map(space, region(place, 0), to, i / 5, 7), 1);
+            space = to;
+            place = i / 5;
+        }
+        due(17, "above", deed(x, 5, 31, 4), 160);
+        due(40, "above at most", x.count(11), 160);
+        due(18, "the highest", x.above(5, 31, 160), 7);
+        due(18, "none above it", x.above(5, 31, 161), -2);
+        due(17, "beneath", deed(x, 0, 0, 6), 160);
+        due(22, "reach", x.reach(1, 1), 31);
+        due(24, "one gate", x.gates(0, 5), 1);
+        due(35, "lost", x.lost(0, region(7, 0), 0), 160);
+        due(36, "steps", x.steps(0, region(7, 0)), 160);
+        due(8, "flush", x.flush(0, region(7, 0), 6, false), 160);
+        due(37, "pages then", x.tried(3), 192);
+        due(9, "work", x.work(99), 99);
+        due(9, "work again", x.work(99), 61);
+        due(8, "flush away", x.flush(1, region(0, 0), 1, true), 160);
+        due(37, "all gone then", x.tried(3), 32);
+        x.work(99);
+        due(9, "the deepest first", x.count(3), 93);
+        due(39, "undo", x.undo(), 19);
+        due(39, "all back", x.count(3), 192);
     }
 
     /** Nothing but what the document names may ever reach a caller. */

@@ -865,38 +865,44 @@ public final class FrameHeirs {
         final int[] slotAt = new int[SLOTS];
         /** Slots for the time of one call; nothing in it lasts. */
         final int[] list = new int[SLOTS];
+        /** No slot from here on was ever used, so that a look at all deeds ends here. */
+        int bound = 0;
         int used = 0;
+        /** How many deeds are tops of jobs. */
+        private int tops = 0;
         int splits = 0;
 
         Deeds() {
-            Arrays.fill(order, NONE);
             Arrays.fill(slotAt, NONE);
         }
 
         void clear() {
-            Arrays.fill(order, NONE);
             Arrays.fill(slotAt, NONE);
+            bound = 0;
             used = 0;
+            tops = 0;
             splits = 0;
         }
 
         void copyFrom(Deeds other) {
-            System.arraycopy(other.space, 0, space, 0, SLOTS);
-            System.arraycopy(other.place, 0, place, 0, SLOTS);
-            System.arraycopy(other.frame, 0, frame, 0, SLOTS);
-            System.arraycopy(other.order, 0, order, 0, SLOTS);
-            System.arraycopy(other.rights, 0, rights, 0, SLOTS);
-            System.arraycopy(other.giver, 0, giver, 0, SLOTS);
-            System.arraycopy(other.first, 0, first, 0, SLOTS);
-            System.arraycopy(other.last, 0, last, 0, SLOTS);
-            System.arraycopy(other.next, 0, next, 0, SLOTS);
-            System.arraycopy(other.previous, 0, previous, 0, SLOTS);
-            System.arraycopy(other.topOf, 0, topOf, 0, SLOTS);
-            System.arraycopy(other.toDo, 0, toDo, 0, SLOTS);
-            System.arraycopy(other.turn, 0, turn, 0, SLOTS);
-            System.arraycopy(other.ages, 0, ages, 0, SLOTS);
+            System.arraycopy(other.space, 0, space, 0, other.bound);
+            System.arraycopy(other.place, 0, place, 0, other.bound);
+            System.arraycopy(other.frame, 0, frame, 0, other.bound);
+            System.arraycopy(other.order, 0, order, 0, other.bound);
+            System.arraycopy(other.rights, 0, rights, 0, other.bound);
+            System.arraycopy(other.giver, 0, giver, 0, other.bound);
+            System.arraycopy(other.first, 0, first, 0, other.bound);
+            System.arraycopy(other.last, 0, last, 0, other.bound);
+            System.arraycopy(other.next, 0, next, 0, other.bound);
+            System.arraycopy(other.previous, 0, previous, 0, other.bound);
+            System.arraycopy(other.topOf, 0, topOf, 0, other.bound);
+            System.arraycopy(other.toDo, 0, toDo, 0, other.bound);
+            System.arraycopy(other.turn, 0, turn, 0, other.bound);
+            System.arraycopy(other.ages, 0, ages, 0, other.bound);
             System.arraycopy(other.slotAt, 0, slotAt, 0, SLOTS);
+            bound = other.bound;
             used = other.used;
+            tops = other.tops;
             splits = other.splits;
         }
 
@@ -927,9 +933,9 @@ public final class FrameHeirs {
 
         int pagesOfAll() {
             int pages = 0;
-            for (int i = 0; i < SLOTS; i++) {
-                if (slotAt[i] >= 0) {
-                    pages++;
+            for (int slot = 0; slot < bound; slot++) {
+                if (order[slot] >= 0) {
+                    pages += 1 << order[slot];
                 }
             }
             return pages;
@@ -938,12 +944,13 @@ public final class FrameHeirs {
         /** A deed without giver and heirs; NONE: there is no empty slot, which more places than slots would need. */
         int make(int ofSpace, int atPlace, int ofFrame, int ofOrder, int withRights) {
             int slot = 0;
-            while (slot < SLOTS && order[slot] >= 0) {
+            while (slot < bound && order[slot] >= 0) {
                 slot++;
             }
             if (slot >= SLOTS) {
                 return NONE;
             }
+            bound = Math.max(bound, slot + 1);
             space[slot] = ofSpace;
             place[slot] = atPlace;
             frame[slot] = ofFrame;
@@ -977,8 +984,7 @@ public final class FrameHeirs {
         private void release(int slot) {
             settleAt(slot, NONE);
             order[slot] = NONE;
-            topOf[slot] = 0;
-            toDo[slot] = 0;
+            tops -= topOf[slot] == 0 ? 0 : 1;
             used--;
         }
 
@@ -1176,7 +1182,7 @@ public final class FrameHeirs {
 
         boolean isBusy(int slot) {
             int current = slot;
-            for (int i = 0; i < SLOTS && current >= 0; i++) {
+            for (int i = 0; i < SLOTS && current >= 0 && tops > 0; i++) {
                 if (topOf[current] != 0) {
                     return true;
                 }
@@ -1190,7 +1196,7 @@ public final class FrameHeirs {
             if (isBusy(slot)) {
                 return true;
             }
-            for (int top = 0; top < SLOTS; top++) {
+            for (int top = 0; top < bound && tops > 0; top++) {
                 if (order[top] >= 0 && topOf[top] != 0 && isBeneath(top, slot)) {
                     return true;
                 }
@@ -1228,7 +1234,7 @@ public final class FrameHeirs {
 
         void coolDown(int decay) {
             float factor = (float) decay / 10f;
-            for (int slot = 0; slot < SLOTS; slot++) {
+            for (int slot = 0; slot < bound; slot++) {
                 if (order[slot] >= 0) {
                     ages[slot] = ages[slot] * factor;
                 }
@@ -1237,7 +1243,7 @@ public final class FrameHeirs {
 
         int leftToDo(int jobNumber) {
             int left = 0;
-            for (int slot = 0; slot < SLOTS; slot++) {
+            for (int slot = 0; slot < bound; slot++) {
                 if (order[slot] >= 0 && toDo[slot] == jobNumber) {
                     left++;
                 }
@@ -1248,7 +1254,7 @@ public final class FrameHeirs {
         /** The deed of a job whose turn it is; NONE: all are done. */
         int firstToDo(int jobNumber) {
             int found = NONE;
-            for (int slot = 0; slot < SLOTS; slot++) {
+            for (int slot = 0; slot < bound; slot++) {
                 if (order[slot] >= 0 && toDo[slot] == jobNumber && (found < 0 || turn[slot] < turn[found])) {
                     found = slot;
                 }
@@ -1258,7 +1264,7 @@ public final class FrameHeirs {
 
         int allToDo() {
             int left = 0;
-            for (int slot = 0; slot < SLOTS; slot++) {
+            for (int slot = 0; slot < bound; slot++) {
                 if (order[slot] >= 0 && toDo[slot] != 0) {
                     left++;
                 }
@@ -1281,10 +1287,16 @@ public final class FrameHeirs {
             return given;
         }
 
+        void markTop(int slot, int jobNumber) {
+            topOf[slot] = jobNumber;
+            tops++;
+        }
+
         void endJob(int jobNumber) {
-            for (int slot = 0; slot < SLOTS; slot++) {
+            for (int slot = 0; slot < bound; slot++) {
                 if (order[slot] >= 0 && topOf[slot] == jobNumber) {
                     topOf[slot] = 0;
+                    tops--;
                 }
             }
         }
@@ -1352,7 +1364,7 @@ public final class FrameHeirs {
 
         static int mostAbove(Deeds deeds) {
             int most = 0;
-            for (int slot = 0; slot < SLOTS; slot++) {
+            for (int slot = 0; slot < deeds.bound; slot++) {
                 if (deeds.order[slot] >= 0) {
                     most = Math.max(most, aboveOf(deeds, slot));
                 }
@@ -1394,9 +1406,10 @@ public final class FrameHeirs {
 
         static int framesOf(Deeds deeds, int space) {
             int frames = 0;
-            for (int slot = 0; slot < SLOTS; slot++) {
-                if (deeds.order[slot] >= 0 && deeds.space[slot] == space) {
-                    frames |= framesIn(deeds, slot);
+            for (int place = 0; place < MOST_PLACES; place++) {
+                int slot = deeds.find(space, place);
+                if (slot >= 0) {
+                    frames |= 1 << frameAt(deeds, slot, place);
                 }
             }
             return frames;
@@ -1404,7 +1417,7 @@ public final class FrameHeirs {
 
         static int holders(Deeds deeds, int frame, int rights) {
             int spaces = 0;
-            for (int slot = 0; slot < SLOTS; slot++) {
+            for (int slot = 0; slot < deeds.bound; slot++) {
                 if (deeds.order[slot] >= 0 && (deeds.rights[slot] & rights) == rights
                     && (framesIn(deeds, slot) >> frame & 1) != 0) {
                     spaces |= 1 << deeds.space[slot];
@@ -1415,7 +1428,7 @@ public final class FrameHeirs {
 
         static int placesOf(Deeds deeds, int space, int frame) {
             int places = 0;
-            for (int slot = 0; slot < SLOTS; slot++) {
+            for (int slot = 0; slot < deeds.bound; slot++) {
                 if (deeds.order[slot] >= 0 && deeds.space[slot] == space
                     && (framesIn(deeds, slot) >> frame & 1) != 0) {
                     places++;
@@ -1426,7 +1439,7 @@ public final class FrameHeirs {
 
         static int pagesBeneath(Deeds deeds, int one, int other) {
             int pages = 0;
-            for (int slot = 0; slot < SLOTS; slot++) {
+            for (int slot = 0; slot < deeds.bound; slot++) {
                 if (deeds.order[slot] >= 0 && deeds.space[slot] == other && hasAbove(deeds, slot, one)) {
                     pages += 1 << deeds.order[slot];
                 }
@@ -1449,7 +1462,7 @@ public final class FrameHeirs {
         static int partings(Deeds deeds, int one, int other) {
             Arrays.fill(deeds.list, 0);
             int found = 0;
-            for (int slot = 0; slot < SLOTS; slot++) {
+            for (int slot = 0; slot < deeds.bound; slot++) {
                 if (deeds.order[slot] < 0 || deeds.space[slot] != other) {
                     continue;
                 }
@@ -1493,7 +1506,7 @@ public final class FrameHeirs {
             }
             int pages = 0;
             int spaces = 0;
-            for (int slot = 0; slot < SLOTS; slot++) {
+            for (int slot = 0; slot < deeds.bound; slot++) {
                 if (deeds.order[slot] >= 0 && isBeneathRegion(deeds, slot, space, from, end)) {
                     int both = framesIn(deeds, slot) & frames;
                     pages += Integer.bitCount(both);
@@ -1775,7 +1788,7 @@ public final class FrameHeirs {
             for (int place = start; place < end; place++) {
                 int slot = deeds.find(space, place);
                 if (slot >= 0 && deeds.place[slot] == place) {
-                    deeds.topOf[slot] = number;
+                    deeds.markTop(slot, number);
                     turns = deeds.queueBeneath(slot, itself, number, turns);
                 }
             }
