@@ -2,7 +2,10 @@ import java.nio.charset.StandardCharsets;
 import java.util.NoSuchElementException;
 import java.util.Random;
 
-/** Each promise of the document with ordinary calls, its edges and wrong calls; the answers were worked out by hand. */
+/**
+ * Each promise of the document with ordinary calls, its edges and wrong calls. The answers were worked out from the
+ * document (floats and draws by a few lines of Java here), not copied from the program.
+ */
 public final class PromisesTest {
     private static int wrong = 0;
     private static int asked = 0;
