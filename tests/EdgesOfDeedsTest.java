@@ -261,12 +261,71 @@ final class EdgesOfDeedsTest extends Probe {
         row(x, 3, 0, -2, -2, 0);
         due(10, x.count(3));
         heirs(x, 0, 0, 98, 37);
+        due(1, x.count(11));
+        due(1, x.reach(0, 1));
+        due(0, x.reach(0, 2));
+        due(0, x.reach(1, 3));
+        due(1, x.reach(0, 3));
+        due(0, x.gates(0, 2));
+        due(1, x.gates(0, 3));
+        due(0, x.gates(1, 3));
+        due(2, x.lost(0, region(0, 3), 0));
+        due(2, x.lost(0, region(0, 3), 1));
+        due(9, x.holds(0, 1));
+        due(0, x.aliases(1, 0));
         FrameHeirs y = told(EIGHT + "pager a r 0;quota a 1;");
         y.grant(0, region(0, 0), 1, 0);
         y.touch(1, 5, 1);
         due(-5, y.serve(0));
         due(0, deed(y, 1, 0, 0));
         due(-4, y.flush(1, region(0, 0), 7, true));
+    }
+
+    // Terms 2: "its HEIRS: DEEDS that came from it, in their order;"
+    static void heirsThatAreLeftKeepTheirOrder() {
+        for (int gone = 0; gone < 3; gone++) {
+            FrameHeirs x = told(EIGHT);
+            for (int space = 1; space <= 3; space++) {
+                x.map(0, region(0, 0), space, 0, 7);
+            }
+            x.flush(1 + gone, region(0, 0), 7, true);
+            x.work(1);
+            int[] left = {gone == 0 ? 64 : 32, gone == 2 ? 64 : 96};
+            heirs(x, 0, 0, left);
+            x.map(0, region(0, 0), 1 + gone, 5, 7);
+            heirs(x, 0, 0, left[0], left[1], 32 * (1 + gone) + 5);
+            x.flush(0, region(0, 0), 7, false);
+            due(3, x.work(9));
+            heirs(x, 0, 0);
+        }
+        FrameHeirs split = told(EIGHT);
+        split.map(0, region(0, 1), 1, 0, 7);
+        split.map(0, region(5, 0), 2, 0, 7);
+        split.flush(1, region(0, 0), 1, false);
+        heirs(split, 0, 0, 32, 33, 64);
+        split.flush(2, region(0, 0), 7, true);
+        split.work(1);
+        heirs(split, 0, 0, 32, 33);
+        split.map(0, region(6, 0), 3, 0, 7);
+        heirs(split, 0, 0, 32, 33, 96);
+        split.flush(1, region(1, 0), 7, true);
+        split.work(1);
+        heirs(split, 0, 0, 32, 96);
+    }
+
+    // Terms 2: "No two DEEDS of one SPACE have one PLACE."
+    static void deedsComeAndGoAsOftenAsOneLikes() {
+        FrameHeirs x = told(EIGHT);
+        for (int place = 0; place < 8; place++) {
+            x.map(0, region(place, 0), 1, place, 7);
+        }
+        for (int i = 0; i < 60; i++) {
+            due(8, x.map(1, region(0, 3), 2, 0, 7));
+            due(17, x.count(2));
+            due(8, x.flush(1, region(0, 3), 7, false));
+            due(8, x.work(99));
+            due(9, x.count(2));
+        }
     }
 
     // Terms 2: "map: from a REGION of one SPACE to one of another one, RIGHTS: for each DEED that is in the REGION, by PLACES"
@@ -279,6 +338,7 @@ final class EdgesOfDeedsTest extends Probe {
         row(x, 2, 2, -2, -2, -2, -2, -2, -2, -2, -2, 0, -2, 1, 1, -2, -2, 0, -2);
         row(x, 2, 1, -2, -2, -2, -2, -2, -2, -2, -2, 7, -2, 3, 3, -2, -2, 4, -2);
         due(32 + 3, x.above(2, 11, 1));
+        due(16, x.kept(2));
         due(0, x.age(2, 8));
         due(0, x.age(2, 10));
         due(1, x.map(1, region(2, 1), 3, 4, 5));
@@ -340,6 +400,7 @@ final class EdgesOfDeedsTest extends Probe {
         due(3, y.grant(1, region(0, 3), 2, 8));
         row(y, 2, 0, -2, -2, -2, -2, -2, -2, -2, -2, 0, -2, 2, 3, -2, -2, 5, -2);
         row(y, 1, 0, -2, -2, -2, -2, -2, -2, -2, -2);
+        due(16, y.kept(2));
         due(0, y.count(7));
         heirs(y, 0, 0, 72, 74, 78);
     }
@@ -507,6 +568,24 @@ final class EdgesOfDeedsTest extends Probe {
         y.map(0, region(1, 0), 1, 0, 7);
         due(1, y.flush(0, region(0, 1), 7, false));
         row(y, 0, 7, 1, 1, 0);
+        FrameHeirs z = told(EIGHT);
+        for (int place = 0; place < 3; place++) {
+            z.map(0, region(place, 0), 1, place, 7);
+        }
+        due(3, z.flush(1, region(0, 2), 7, true));
+        z.work(1);
+        row(z, 1, 7, -2, 1, 1, -2);
+        z.map(0, region(4, 0), 1, 4, 7);
+        z.map(0, region(5, 0), 2, 5, 7);
+        row(z, 1, 7, -2, 1, 1, -2, 0);
+        due(0, deed(z, 2, 5, 7));
+        due(0, deed(z, 0, 4, 7));
+        z.work(1);
+        row(z, 1, 7, -2, -2, 1, -2, 0);
+        due(1, z.job(0, 2));
+        z.map(0, region(6, 0), 1, 6, 7);
+        due(1, z.work(9));
+        row(z, 1, 7, -2, -2, -2, -2, 0, -2, 0);
     }
 
     // Promise 6: "map from a REGION to that of the same ORDER at a PLACE of another SPACE: how many DEEDS come to be;"

@@ -866,6 +866,16 @@ final class EdgesOfQuestionsTest extends Probe {
         due(3, twice.lost(1, region(0, 1), 0));
         due(3, twice.lost(1, region(0, 1), 1));
         due(1, twice.lost(1, region(1, 0), 0));
+        FrameHeirs beside = told(EIGHT);
+        for (int place = 2; place <= 5; place++) {
+            beside.map(0, region(0, 0), 1, place, 7);
+            beside.map(1, region(place, 0), 2, place, 7);
+            beside.map(1, region(place, 0), 3, place, 7);
+        }
+        due(2, beside.lost(1, region(3, 0), 0));
+        due(2, beside.lost(1, region(4, 0), 0));
+        due(4, beside.lost(1, region(2, 1), 0));
+        due(4, beside.lost(1, region(4, 2), 0));
         changesNothing(y -> y.lost(0, region(6, 0), 0));
         changesNothing(y -> y.lost(0, region(6, 0), 1));
     }
@@ -941,6 +951,9 @@ final class EdgesOfQuestionsTest extends Probe {
         due(0, x.tried(1));
         due(0, new FrameHeirs().tried(0));
         due(0, new FrameHeirs().tried(1));
+        due(1, before.get().tried(1));
+        due(1, then(before, y -> y.churn(1, 20)).get().tried(1));
+        due(10, then(before, y -> y.churn(1, 20)).get().tried(0));
         alike(before, then(before, y -> y.tried(0)));
         alike(before, then(before, y -> y.tried(1)));
     }

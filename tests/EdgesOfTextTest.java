@@ -115,6 +115,36 @@ final class EdgesOfTextTest extends Probe {
         alike(() -> told(BUSY_TEXT), then(used, y -> tell(y, BUSY_TEXT)));
     }
 
+    // Promise 3: "nothing counted, nothing to undo then)"
+    static void eachOfManyTextsBeginsAnew() {
+        String full = "size 32;budget 0;decay 1;seed 9;space r;space a;space b;quota a 3;pager a b 3;pager b r 1;serve a;serve b;";
+        String broken = "size 8;budget 9;decay 9;seed 8;space q;space a;quota a 5;quota q 5;pager a q 2;serve a;serve";
+        String plain = "space r;space a;space b;quota b 7;map r 0 a 0 0 7;map r 1 a 1 0 7;map r 2 a 2 0 7;flush r 0 3 7 0;";
+        Supplier<FrameHeirs> first = then(() -> told(plain), EdgesOfTextTest::usePlain);
+        String[][] ahead = {{full}, {full, full}, {broken}, {full, broken}, {full, full, broken, plain}, {plain, plain, full, broken, full}};
+        for (String[] texts : ahead) {
+            alike(first, () -> {
+                FrameHeirs x = new FrameHeirs();
+                for (String text : texts) {
+                    tell(x, text);
+                    x.run(2);
+                    x.touch(1, 0, 1);
+                }
+                due(8, tell(x, plain));
+                usePlain(x);
+                return x;
+            });
+        }
+    }
+
+    private static void usePlain(FrameHeirs x) {
+        x.touch(0, 0, 1);
+        x.run(4);
+        x.tick();
+        x.touch(2, 0, 1);
+        x.map(0, region(8, 3), 1, 8, 7);
+    }
+
     // Promise 3: "how many LINES;"
     static void linesAreCounted() {
         noFault(0, "");
@@ -525,11 +555,22 @@ final class EdgesOfTextTest extends Probe {
                 noFault(5, AHEAD + "size 8;" + step + ";");
             }
         }
+        cutOff("space a;space b;", 15, 15);
+        cutOff("space ab;", 7, 7);
+        cutOff("spaces", 5, 5);
+        cutOff("space a;", 4, 0);
+        cutOff("seed 12;", 6, 6);
+        cutOff("seed1", 4, 4);
+        cutOff("space a;seed 9", 13, 13);
+    }
+
+    /** Of the text only some bytes are told; what stands behind them is no part of the last token. */
+    private static void cutOff(String text, int told, int place) {
         FrameHeirs x = new FrameHeirs();
-        feedAll(x, "space a;space b;");
-        due(NONE, x.text(15));
+        feedAll(x, text);
+        due(NONE, x.text(told));
         due(1, x.fault(0));
-        due(15, x.fault(1));
+        due(place, x.fault(1));
     }
 
     // Terms 1: "2 too much (at it): a number beyond what is said, a seventh space, a 25th STEP (at the word of the LINE)."

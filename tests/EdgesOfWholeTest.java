@@ -35,15 +35,19 @@ final class EdgesOfWholeTest extends Probe {
 
     /** A state from which each kind of call can do something. */
     private static Supplier<FrameHeirs> rich() {
-        return run("size 8;budget 1;space r;space a;space b;space c;pager a r 0;pager b a 0;pager c r 1;quota c 2;"
+        return run("size 8;budget 1;space r;space a;space b;space c;pager a r 0;pager b a 0;pager c r 1;quota c 3;"
             + "map r 4 a 4 2 7;flush r 4 1 2 0;touch a 6 1;", x -> {
                 x.flush(0, region(4, 2), 1, false);
                 x.map(0, region(0, 1), 1, 0, 7);
                 x.map(1, region(0, 0), 2, 0, 3);
                 x.map(1, region(1, 0), 3, 7, 3);
                 x.map(0, region(1, 0), 3, 6, 3);
+                x.map(1, region(0, 0), 2, 3, 7);
+                x.map(1, region(0, 0), 2, 4, 7);
+                x.map(2, region(3, 0), 3, 1, 7);
                 x.touch(1, 0, 1);
                 x.flush(1, region(0, 0), 4, false);
+                x.work(1);
                 x.touch(2, 6, 1);
                 x.touch(3, 7, 4);
             });
@@ -69,7 +73,7 @@ final class EdgesOfWholeTest extends Probe {
 
     // Terms 4: "Each call of map .. run that isn't NONE can be undone, the latest first (20 at most; LINES, too)."
     static void eachKindIsUndone() {
-        int[] due = {1, 1, 1, 0, 1, 1, -2, 3, -6, 3, 7, 1, 3};
+        int[] due = {1, 1, 1, 0, 1, 1, -2, 3, -6, 3, 10, 1, 3};
         List<ToIntFunction<FrameHeirs>> kinds = kinds();
         for (int i = 0; i < due.length; i++) {
             ToIntFunction<FrameHeirs> kind = kinds.get(i);
@@ -99,6 +103,27 @@ final class EdgesOfWholeTest extends Probe {
         alike(refused, then(refused, y -> {
             y.serve(1);
             y.undo();
+        }));
+    }
+
+    // Terms 4: "Each call of map .. run that isn't NONE can be undone, the latest first"
+    static void whatWasUndoneLeavesNoTrace() {
+        for (ToIntFunction<FrameHeirs> undone : kinds()) {
+            for (ToIntFunction<FrameHeirs> next : kinds()) {
+                alike(then(rich(), next::applyAsInt), then(rich(), x -> {
+                    undone.applyAsInt(x);
+                    x.undo();
+                    next.applyAsInt(x);
+                }));
+            }
+        }
+        alike(then(rich(), x -> x.work(99)), then(rich(), x -> {
+            x.work(1);
+            x.undo();
+            x.work(1);
+            x.work(2);
+            x.undo();
+            x.work(99);
         }));
     }
 

@@ -11,7 +11,7 @@ import java.util.function.Consumer;
 import java.util.function.Supplier;
 import java.util.function.ToIntFunction;
 
-/** What the tests of the edges share: the check of an answer, texts told to an object, and all that can be asked. */
+/** What the tests share: the check of an answer, texts told to an object, and all that can be asked. */
 abstract class Probe {
     static final int NONE = FrameHeirs.NONE;
     static final int LEAST = Integer.MIN_VALUE;
@@ -72,6 +72,13 @@ abstract class Probe {
         asked++;
         if (got != want) {
             fail(caller() + ": answered " + got + ", due is " + want);
+        }
+    }
+
+    static void due(int promise, String call, int got, int want) {
+        asked++;
+        if (got != want) {
+            fail("promise " + promise + ": " + call + " answered " + got + ", due is " + want);
         }
     }
 
